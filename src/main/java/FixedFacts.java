@@ -27,7 +27,7 @@ public final class FixedFacts {
     private final Image secondImage = new Image();
     private final Book book = new Book();
     private final Work known = new Work();
-    private final Work otherwise = new Work();
+    private final Work trial = new Work();
     private final Judge judge = new Judge();
     private int drawn;
 
@@ -116,7 +116,7 @@ public final class FixedFacts {
         if (!isChoice(choice)) {
             return OUTSIDE;
         }
-        return otherwise.run(web, choice, NONE);
+        return trial.run(web, choice, NONE);
     }
 
     public int worked(int choice, int p) {
@@ -126,7 +126,7 @@ public final class FixedFacts {
         if (!isChoice(choice)) {
             return OUTSIDE;
         }
-        return otherwise.run(web, choice, NONE) == NONE ? NONE : otherwise.found[p];
+        return trial.run(web, choice, NONE) == NONE ? NONE : trial.found[p];
     }
 
     // ---- deeds
@@ -359,10 +359,10 @@ public final class FixedFacts {
 
     /** Asks that what is KNOWN has just been found. */
     private int otherwiseWithout(int w) {
-        otherwise.run(web, LEAST, w);
+        trial.run(web, LEAST, w);
         int differing = 0;
         for (int p = 0; p < web.places; p++) {
-            if (otherwise.found[p] != known.found[p]) {
+            if (trial.found[p] != known.found[p]) {
                 differing++;
             }
         }
