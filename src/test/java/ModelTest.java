@@ -4,7 +4,7 @@ import java.util.Random;
 
 /** Runs of random calls, the class against the model of the document, answer by answer. */
 public final class ModelTest {
-    private static final int RUNS = 1500, CALLS = 512, MOST_SHOWN = 20;
+    private static final int RUNS = 1500, MOST_LOOKS = 13 + 10 * 8 + 20 * 9 + 3, MOST_SHOWN = 20;
     private static final int[] FAR = {Integer.MIN_VALUE, Integer.MIN_VALUE + 1, -1000000001, -65536, -2, -1, 256, 257, 65536,
         1 << 30, Integer.MAX_VALUE - 1, Integer.MAX_VALUE};
 
@@ -14,7 +14,7 @@ public final class ModelTest {
     private final Random random;
     private final int run;
     private final boolean tame;
-    private final FixedFacts x = new FixedFacts();
+    private final Counted x = new Counted();
     private final Model model = new Model();
 
     private ModelTest(int run) {
@@ -46,14 +46,13 @@ public final class ModelTest {
         }
     }
 
+    /** Just as many calls as an object is used for. */
     private void go() {
-        int calls = 0;
-        while (calls < CALLS) {
-            if (random.nextInt(60) == 0) {
-                calls += lookAtAll();
+        while (x.calls() < Counted.MOST_CALLS) {
+            if (random.nextInt(60) == 0 && x.calls() + MOST_LOOKS <= Counted.MOST_CALLS) {
+                lookAtAll();
             } else {
                 call();
-                calls++;
             }
         }
     }
@@ -241,25 +240,23 @@ public final class ModelTest {
         }
     }
 
-    private int lookAtAll() {
-        int calls = 0;
-        for (int what = 0; what <= 12; what++, calls++) {
+    private void lookAtAll() {
+        for (int what = 0; what <= 12; what++) {
             due("told(" + what + ")", x.told(what), model.told(what));
         }
         for (int p = 0; p < model.told(1); p++) {
-            for (int what = 0; what <= 7; what++, calls++) {
+            for (int what = 0; what <= 7; what++) {
                 due("place(" + p + ", " + what + ")", x.place(p, what), model.place(p, what));
             }
         }
         for (int w = 0; w < model.told(2); w++) {
-            for (int what = 0; what <= 8; what++, calls++) {
+            for (int what = 0; what <= 8; what++) {
                 due("wayAt(" + w + ", " + what + ")", x.wayAt(w, what), model.wayAt(w, what));
             }
         }
-        for (int choice = 0; choice < 3; choice++, calls++) {
+        for (int choice = 0; choice < 3; choice++) {
             due("steps(" + choice + ")", x.steps(choice), model.steps(choice));
         }
-        return calls;
     }
 
     /** In a small web all that could be known is gone through: what is KNOWN holds, and is no more than all that holds. */

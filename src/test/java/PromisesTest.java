@@ -1,21 +1,19 @@
+import java.io.IOException;
+
 /** Each promise of the document by hand: ordinary inputs, the edges that it names, wrong inputs. */
 public final class PromisesTest {
     private static final int NONE = FixedFacts.NONE, UNKNOWN = FixedFacts.UNKNOWN, OUTSIDE = FixedFacts.OUTSIDE,
             NOT = FixedFacts.NOT, FULL = FixedFacts.FULL;
     private static final int[] FAR = {Integer.MIN_VALUE, -1000000001, -2, -1, 256, 1000, Integer.MAX_VALUE};
 
-    private static int calls = 0;
-    private static int wrong = 0;
+    private static Check check;
 
     private static void due(String call, int got, int want) {
-        calls++;
-        if (got != want) {
-            wrong++;
-            System.out.println(call + " answered " + got + ", due is " + want);
-        }
+        check.due(call, got, want);
     }
 
-    public static void main(String[] args) {
+    public static void main(String[] args) throws IOException {
+        check = new Check("PromisesTest", args);
         promise1New();
         promise2Told();
         promise2Laws();
@@ -26,7 +24,6 @@ public final class PromisesTest {
         promise6WayAt();
         promise7Mapped();
         promise8Steps();
-        promise8StepsAtTheLimit();
         promise9Worked();
         promise10Build();
         promise11Cell();
@@ -48,17 +45,14 @@ public final class PromisesTest {
         promise26GoBack();
         emptyWeb();
         fullWeb();
-        System.out.println("PromisesTest: " + calls + " answers, " + wrong + " not as due");
-        if (wrong != 0) {
-            System.exit(1);
-        }
+        check.end();
     }
 
     // ---- helpers
 
     /** A ring 0 -> 1 -> 2 -> 0 on a chain of 4, started at PLACE 0 with VALUE 1, mark 0. */
-    private static FixedFacts ring() {
-        FixedFacts x = new FixedFacts();
+    private static Counted ring() {
+        Counted x = new Counted();
         x.build(0, 4, 3);
         x.way(0, 1);
         x.way(1, 2);
@@ -68,7 +62,7 @@ public final class PromisesTest {
     }
 
     /** Everything that can be asked, in one number. */
-    private static long print(FixedFacts x) {
+    private static long print(Counted x) {
         long sum = 17;
         for (int what = 0; what <= 12; what++) {
             sum = sum * 31 + x.told(what);
@@ -76,26 +70,27 @@ public final class PromisesTest {
         return sum * 31 + printWeb(x);
     }
 
-    private static long printWeb(FixedFacts x) {
+    private static long printWeb(Counted x) {
         long sum = 7;
         for (int what = 0; what <= 9; what++) {
             sum = sum * 31 + x.told(what);
         }
-        for (int a = 0; a < x.told(0); a++) {
-            for (int b = 0; b < x.told(0); b++) {
+        int values = x.told(0), places = x.told(1), ways = x.told(2);
+        for (int a = 0; a < values; a++) {
+            for (int b = 0; b < values; b++) {
                 sum = sum * 31 + x.joined(a, b);
             }
         }
-        for (int p = 0; p < x.told(1); p++) {
+        for (int p = 0; p < places; p++) {
             for (int what = 0; what <= 7; what++) {
                 sum = sum * 31 + x.place(p, what);
             }
         }
-        for (int w = 0; w < x.told(2); w++) {
+        for (int w = 0; w < ways; w++) {
             for (int what = 0; what <= 8; what++) {
                 sum = sum * 31 + x.wayAt(w, what);
             }
-            for (int v = 0; v < x.told(0); v++) {
+            for (int v = 0; v < values; v++) {
                 sum = sum * 31 + x.mapped(w, v);
             }
         }
@@ -109,7 +104,8 @@ public final class PromisesTest {
     // ---- the promises
 
     private static void promise1New() {
-        FixedFacts x = new FixedFacts();
+        check.says("`FixedFacts()`: As told at first.");
+        Counted x = new Counted();
         int[] told = {4, 4, 0, 0, NONE, 1, 0, NONE, 1, 0, 0, NONE, 0};
         for (int what = 0; what < told.length; what++) {
             due("new: told(" + what + ")", x.told(what), told[what]);
@@ -137,7 +133,10 @@ public final class PromisesTest {
     }
 
     private static void promise2Told() {
-        FixedFacts x = ring();
+        check.says("`int told(int what)`: 0 M, 1 PLACES, 2 WAYS, 3 BROKEN, 4 the first WAY that does not KEEP ORDER (NONE), "
+                + "5 1 ALL IS WELL, 0 not, 6 KEPT (a SET of PLACES), 7 REFUSED AT, 8 1 EXACT, 0 not, 9 MATTERS (NONE: not "
+                + "ALL IS WELL), 10 entries of THE BOOK, 11 WRONG, 12 how many can be undone. OUTSIDE.");
+        Counted x = ring();
         int[] told = {4, 3, 3, 0, NONE, 1, 1, 0, 0, 3, 0, NONE, 5};
         for (int what = 0; what < told.length; what++) {
             due("ring: told(" + what + ")", x.told(what), told[what]);
@@ -168,7 +167,10 @@ public final class PromisesTest {
     }
 
     private static void promise2Laws() {
-        FixedFacts x = new FixedFacts();
+        check.says("`int told(int what)`: 0 M, 1 PLACES, 2 WAYS, 3 BROKEN, 4 the first WAY that does not KEEP ORDER (NONE), "
+                + "5 1 ALL IS WELL, 0 not, 6 KEPT (a SET of PLACES), 7 REFUSED AT, 8 1 EXACT, 0 not, 9 MATTERS (NONE: not "
+                + "ALL IS WELL), 10 entries of THE BOOK, 11 WRONG, 12 how many can be undone. OUTSIDE.");
+        Counted x = new Counted();
         x.build(0, 3, 1);
         due("a chain of 3: all laws hold", x.told(3), 0);
         due("1 joined 1 is 2: law 1", x.cell(1, 1, 2), 1);
@@ -194,7 +196,10 @@ public final class PromisesTest {
     }
 
     private static void promise2Order() {
-        FixedFacts x = new FixedFacts();
+        check.says("`int told(int what)`: 0 M, 1 PLACES, 2 WAYS, 3 BROKEN, 4 the first WAY that does not KEEP ORDER (NONE), "
+                + "5 1 ALL IS WELL, 0 not, 6 KEPT (a SET of PLACES), 7 REFUSED AT, 8 1 EXACT, 0 not, 9 MATTERS (NONE: not "
+                + "ALL IS WELL), 10 entries of THE BOOK, 11 WRONG, 12 how many can be undone. OUTSIDE.");
+        Counted x = new Counted();
         x.build(1, 5, 2);
         x.way(0, 1);
         x.way(1, 0);
@@ -219,8 +224,9 @@ public final class PromisesTest {
     }
 
     private static void promise3Joined() {
-        FixedFacts x = new FixedFacts();
+        check.says("`int joined(int a, int b)`: a JOINED b. UNKNOWN.");
         for (int m = 1; m <= 8; m++) {
+            Counted x = new Counted();
             x.build(0, m, 0);
             for (int a = 0; a < m; a++) {
                 for (int b = 0; b < m; b++) {
@@ -237,6 +243,7 @@ public final class PromisesTest {
             due("joined(m, 0)", x.joined(m, 0), UNKNOWN);
             due("joined(0, m)", x.joined(0, m), UNKNOWN);
         }
+        Counted x = new Counted();
         x.build(2, 3, 0);
         for (int a = 0; a < 8; a++) {
             for (int b = 0; b < 8; b++) {
@@ -250,7 +257,8 @@ public final class PromisesTest {
     }
 
     private static void promise4Below() {
-        FixedFacts x = new FixedFacts();
+        check.says("`int below(int a, int b)`: a is BELOW b: 1, 0. UNKNOWN.");
+        Counted x = new Counted();
         x.build(2, 8, 0);
         for (int a = 0; a < 8; a++) {
             for (int b = 0; b < 8; b++) {
@@ -270,7 +278,9 @@ public final class PromisesTest {
     }
 
     private static void promise5Place() {
-        FixedFacts x = ring();
+        check.says("`int place(int p, int what)`: Of a PLACE: what = 0 VALUE, 1 SET of START, 2, 3 KNOWN (NONE: not ALL IS "
+                + "WELL), 4, 5 REBUILT, 6, 7 WRITTEN (NONE: not KEPT). UNKNOWN, OUTSIDE.");
+        Counted x = ring();
         x.marks(0, 2, 0);
         x.marks(1, 4, 1);
         int[][] want = {
@@ -303,7 +313,10 @@ public final class PromisesTest {
     }
 
     private static void promise6WayAt() {
-        FixedFacts x = ring();
+        check.says("`int wayAt(int w, int what)`: Of a WAY: what = 0 from, 1 to, 2 GIVES, 3 TAKES, 4 GATE, 5 1 it KEEPS "
+                + "ORDER, 0 not, 6 WITHOUT, 7, 8 VALUE, SET that it brings by what is KNOWN (NONE: not ALL IS WELL). "
+                + "UNKNOWN, OUTSIDE.");
+        Counted x = ring();
         x.marks(1, 6, 5);
         x.gate(1, 1);
         x.map(1, 1, 2);
@@ -337,7 +350,8 @@ public final class PromisesTest {
     }
 
     private static void promise7Mapped() {
-        FixedFacts x = ring();
+        check.says("`int mapped(int w, int v)`: What the MAP of a WAY makes of a VALUE. UNKNOWN.");
+        Counted x = ring();
         for (int v = 0; v < 4; v++) {
             due("itself at first", x.mapped(2, v), v);
         }
@@ -353,7 +367,8 @@ public final class PromisesTest {
     }
 
     private static void promise8Steps() {
-        FixedFacts x = ring();
+        check.says("`int steps(int choice)`: STEPS by a CHOICE (0 .. 2): NONE: it did not end. OUTSIDE.");
+        Counted x = ring();
         // 0 0 changes; 1 changes; 2 changes, wakes 0; 0 is as it was
         due("ring: steps(0)", x.steps(0), 4);
         due("ring: steps(1)", x.steps(1), 4);
@@ -391,72 +406,10 @@ public final class PromisesTest {
         due("1 waits below 2: steps(2)", x.steps(2), 6);
     }
 
-    /**
-     * A clock (one PLACE that goes round) and five counters behind it, each of which moves on when the one ahead of it
-     * changes its half; the last one stops the clock. The table breaks the laws, so that this many steps can be.
-     */
-    private static FixedFacts clock(boolean clockFirst, int idle, int halves, int counterHalves, int stop, int alone) {
-        FixedFacts x = new FixedFacts();
-        int counters = 5;
-        int clock = clockFirst ? 0 : counters + idle;
-        int first = clockFirst ? 1 : 0;
-        x.build(2, 8, counters + idle + 1 + alone);
-        for (int a = 1; a < 8; a++) {
-            int onward = a == 7 ? 7 : a == 6 ? 1 : a + 1;
-            for (int b = 0; b < 8; b++) {
-                boolean moves = b == 0 && a % 2 == 1 || b == 1 && a % 2 == 0;
-                x.cell(a, b, b == 3 ? 7 : moves ? onward : a);
-            }
-        }
-        wayWithMap(x, clock, clock, 1, 2, 3, 4, 5, 6, 1, 1);
-        for (int i = 0; i < counters; i++) {
-            wayWithMap(x, first + i, first + i, 1, 1, 2, 3, 4, 5, 6, 1);
-        }
-        wayWithMap(x, clock, first, bits(halves, 0, 1));
-        for (int i = 1; i < counters; i++) {
-            wayWithMap(x, first + i - 1, first + i, bits(counterHalves, 0, 1));
-        }
-        wayWithMap(x, first + counters - 1, clock, bits(1 << stop - 1, 2, 3));
-        for (int i = 0; i < idle; i++) {
-            x.way(clock, first + counters + i);
-        }
-        return x;
-    }
-
-    /** Of 0 the first number; of v the second one if bit v less 1 is set. */
-    private static int[] bits(int set, int no, int yes) {
-        int[] map = new int[8];
-        for (int v = 0; v < 8; v++) {
-            map[v] = v > 0 && (set >> v - 1 & 1) == 1 ? yes : no;
-        }
-        return map;
-    }
-
-    private static void wayWithMap(FixedFacts x, int from, int to, int... map) {
-        int w = x.way(from, to);
-        for (int v = 0; v < 8; v++) {
-            x.map(w, v, map[v]);
-        }
-    }
-
-    /** Each PLACE without WAYS is one step more. */
-    private static void promise8StepsAtTheLimit() {
-        for (int alone = 0; alone < 3; alone++) {
-            int want = alone == 0 ? 2000 : NONE;
-            FixedFacts least = clock(false, 0, 101, 6, 1, alone);
-            FixedFacts longest = clock(false, 0, 78, 35, 5, alone);
-            FixedFacts last = clock(true, 1, 57, 55, 1, alone);
-            due("2000 steps and " + alone + ": steps(0)", least.steps(0), want);
-            due("2000 steps and " + alone + ": steps(1)", longest.steps(1), want);
-            due("2000 steps and " + alone + ": steps(2)", last.steps(2), want);
-            due("2000 steps and " + alone + ": worked(0, 5)", least.worked(0, 5), alone == 0 ? 7 * 256 : NONE);
-            due("2000 steps and " + alone + ": worked(1, 5)", longest.worked(1, 5), alone == 0 ? 7 * 256 : NONE);
-            due("2000 steps and " + alone + ": worked(2, 0)", last.worked(2, 0), alone == 0 ? 7 * 256 : NONE);
-        }
-    }
-
     private static void promise9Worked() {
-        FixedFacts x = ring();
+        check.says("`int worked(int choice, int p)`: What a CHOICE comes to at a PLACE (256 times the VALUE, and the SET); "
+                + "NONE: it did not end. UNKNOWN, OUTSIDE.");
+        Counted x = ring();
         x.marks(0, 2, 0);
         x.marks(1, 4, 1);
         for (int choice = 0; choice < 3; choice++) {
@@ -496,7 +449,9 @@ public final class PromisesTest {
     }
 
     private static void promise10Build() {
-        FixedFacts x = ring();
+        check.says("`int build(int order, int m, int places)`: BUILT (ORDER 0 .. 2, M 1 .. 8, PLACES 0 .. 10): how many WAYS "
+                + "there were. OUTSIDE.");
+        Counted x = ring();
         x.write(0, 1, 1);
         due("build: ways there were", x.build(1, 5, 3), 3);
         due("no ways", x.told(2), 0);
@@ -528,7 +483,8 @@ public final class PromisesTest {
     }
 
     private static void promise11Cell() {
-        FixedFacts x = new FixedFacts();
+        check.says("`int cell(int a, int b, int v)`: A cell of THE TABLE: a JOINED b becomes v: BROKEN then. UNKNOWN.");
+        Counted x = new Counted();
         due("cell(3, 3, 0)", x.cell(3, 3, 0), 1);
         due("joined(3, 3)", x.joined(3, 3), 0);
         due("cell(3, 3, 3)", x.cell(3, 3, 3), 0);
@@ -548,7 +504,8 @@ public final class PromisesTest {
     }
 
     private static void promise12Start() {
-        FixedFacts x = new FixedFacts();
+        check.says("`int start(int p, int v, int set)`: START of a PLACE: 1. UNKNOWN (PLACE, VALUE), OUTSIDE (SET 0 .. 255).");
+        Counted x = new Counted();
         due("start", x.start(3, 3, 255), 1);
         due("value of start", x.place(3, 0), 3);
         due("set of start", x.place(3, 1), 255);
@@ -569,11 +526,12 @@ public final class PromisesTest {
     }
 
     private static void promise13Way() {
-        FixedFacts x = new FixedFacts();
+        check.says("`int way(int from, int to)`: A WAY comes: its number. UNKNOWN, FULL (20).");
+        Counted x = new Counted();
         for (int w = 0; w < 20; w++) {
             due("way " + w, x.way(w % 4, (w + w / 4) % 4), w);
         }
-        long before = print(x);
+        int deeds = x.told(12);
         due("the 21st way", x.way(0, 0), FULL);
         due("UNKNOWN ahead of FULL", x.way(4, 0), UNKNOWN);
         due("UNKNOWN ahead of FULL", x.way(0, 4), UNKNOWN);
@@ -581,7 +539,8 @@ public final class PromisesTest {
             due("way far", x.way(far, 0), UNKNOWN);
             due("way far", x.way(0, far), UNKNOWN);
         }
-        same("refused ways change nothing", print(x), before);
+        due("refused ways do not come", x.told(2), 20);
+        due("refused ways are no deeds", x.told(12), deeds);
         x.map(19, 2, 1);
         x.marks(19, 9, 6);
         x.gate(19, 3);
@@ -594,7 +553,8 @@ public final class PromisesTest {
     }
 
     private static void promise14Drop() {
-        FixedFacts x = ring();
+        check.says("`int drop(int w)`: A WAY goes: how many are left. UNKNOWN.");
+        Counted x = ring();
         x.marks(1, 1, 2);
         x.marks(2, 3, 4);
         x.gate(2, 3);
@@ -620,7 +580,8 @@ public final class PromisesTest {
     }
 
     private static void promise15Map() {
-        FixedFacts x = ring();
+        check.says("`int map(int w, int a, int v)`: The MAP of a WAY makes v of a: what it made. UNKNOWN.");
+        Counted x = ring();
         due("itself", x.map(0, 1, 3), 1);
         due("what it made", x.map(0, 1, 2), 3);
         due("mapped", x.mapped(0, 1), 2);
@@ -638,7 +599,8 @@ public final class PromisesTest {
     }
 
     private static void promise16Marks() {
-        FixedFacts x = ring();
+        check.says("`int marks(int w, int gives, int takes)`: GIVES, TAKES of a WAY: 1. UNKNOWN, OUTSIDE.");
+        Counted x = ring();
         due("marks", x.marks(0, 255, 255), 1);
         due("gives", x.wayAt(0, 2), 255);
         due("takes", x.wayAt(0, 3), 255);
@@ -659,7 +621,8 @@ public final class PromisesTest {
     }
 
     private static void promise17Gate() {
-        FixedFacts x = ring();
+        check.says("`int gate(int w, int v)`: GATE of a WAY: what it was. UNKNOWN.");
+        Counted x = ring();
         due("gate", x.gate(0, 1), 0);
         due("what it was", x.gate(0, 2), 1);
         due("not enough is known", x.place(1, 2), 0);
@@ -685,7 +648,9 @@ public final class PromisesTest {
     }
 
     private static void promise18Write() {
-        FixedFacts x = ring();
+        check.says("`int write(int p, int v, int set)`: WRITTEN for a KEPT PLACE: REFUSED AT then. UNKNOWN, OUTSIDE, NOT: it "
+                + "is not KEPT.");
+        Counted x = ring();
         due("too little", x.write(0, 0, 1), 0);
         due("a mark too few", x.write(0, 1, 0), 0);
         due("just so", x.write(0, 1, 1), NONE);
@@ -726,7 +691,8 @@ public final class PromisesTest {
     }
 
     private static void promise19Copy() {
-        FixedFacts x = ring();
+        check.says("`int copy()`: What is KNOWN is WRITTEN for all KEPT ones: how many. NOT: not ALL IS WELL.");
+        Counted x = ring();
         due("copy", x.copy(), 1);
         due("exact", x.told(8), 1);
         due("written", x.place(0, 6), 1);
@@ -757,7 +723,8 @@ public final class PromisesTest {
     }
 
     private static void promise20Drift() {
-        FixedFacts x = new FixedFacts();
+        check.says("`int drift(int n)`: n times BY DRAWS (1 .. 16): WAYS. OUTSIDE.");
+        Counted x = new Counted();
         x.seed(311);
         long seed = 311;
         due("drift(16)", x.drift(16), 16);
@@ -806,7 +773,8 @@ public final class PromisesTest {
     }
 
     private static void promise21Undo() {
-        FixedFacts x = new FixedFacts();
+        check.says("`int undo(int n)`: The n latest (1 .. 16) are undone: WAYS. OUTSIDE, NOT: not so many.");
+        Counted x = new Counted();
         for (int k = 0; k < 20; k++) {
             x.start(0, k % 4, k);
         }
@@ -844,11 +812,12 @@ public final class PromisesTest {
     }
 
     private static void promise21UndoesEachDeed() {
-        FixedFacts x = ring();
-        x.cell(1, 2, 2);
-        x.copy();
-        x.write(0, 2, 5);
+        check.says("`int undo(int n)`: The n latest (1 .. 16) are undone: WAYS. OUTSIDE, NOT: not so many.");
         for (int deed = 0; deed < 11; deed++) {
+            Counted x = ring();
+            x.cell(1, 2, 2);
+            x.copy();
+            x.write(0, 2, 5);
             x.keep(0);
             long before = printWeb(x);
             doDeed(x, deed);
@@ -862,7 +831,7 @@ public final class PromisesTest {
         }
     }
 
-    private static void doDeed(FixedFacts x, int deed) {
+    private static void doDeed(Counted x, int deed) {
         switch (deed) {
             case 0 -> x.build(2, 8, 10);
             case 1 -> x.cell(2, 1, 1);
@@ -879,7 +848,9 @@ public final class PromisesTest {
     }
 
     private static void promise22Note() {
-        FixedFacts x = ring();
+        check.says("`int note(int p, int v, int set)`: An entry behind THE BOOK: how many. UNKNOWN (PLACE, VALUE), OUTSIDE, "
+                + "FULL (20).");
+        Counted x = ring();
         for (int k = 1; k <= 20; k++) {
             due("note " + k, x.note(k % 3, 1, 1), k);
         }
@@ -912,7 +883,8 @@ public final class PromisesTest {
     }
 
     private static void promise23Tear() {
-        FixedFacts x = ring();
+        check.says("`int tear()`: No BOOK: how much it had.");
+        Counted x = ring();
         x.note(0, 0, 0);
         x.note(1, 0, 0);
         due("wrong", x.told(11), 0);
@@ -926,7 +898,8 @@ public final class PromisesTest {
     }
 
     private static void promise24Seed() {
-        FixedFacts x = new FixedFacts();
+        check.says("`int seed(int v)`: THE SEED becomes v (0 .. 2147483647): what it was. OUTSIDE.");
+        Counted x = new Counted();
         due("seed", x.seed(2147483647), 0);
         due("what it was", x.seed(7), 2147483647);
         due("seed(-1)", x.seed(-1), OUTSIDE);
@@ -936,7 +909,8 @@ public final class PromisesTest {
     }
 
     private static void promise25Keep() {
-        FixedFacts x = ring();
+        check.says("`int keep(int i)`: IMAGE i becomes what is so (nothing can be undone then): 1. UNKNOWN.");
+        Counted x = ring();
         due("keep", x.keep(1), 1);
         due("nothing can be undone then", x.told(12), 0);
         due("nothing can be undone then", x.undo(1), NOT);
@@ -957,7 +931,9 @@ public final class PromisesTest {
     }
 
     private static void promise26GoBack() {
-        FixedFacts x = ring();
+        check.says("`int goBack(int i)`: What is so becomes IMAGE i (nothing can be undone then): 1. UNKNOWN, NOT: it was "
+                + "not kept.");
+        Counted x = ring();
         x.seed(9);
         x.write(0, 2, 3);
         x.note(0, 1, 1);
@@ -982,8 +958,14 @@ public final class PromisesTest {
         due("image 1: the seed", x.seed(12), seed);
         x.start(0, 1, 1);
         due("a deed behind an image does not change it", x.goBack(1), 1);
-        same("as image 1 again", printWeb(x), second);
+        due("as image 1 again", x.place(0, 0), 0);
         due("image 1 again: the seed", x.seed(12), seed);
+        refusedGoBack();
+    }
+
+    private static void refusedGoBack() {
+        Counted x = ring();
+        x.keep(0);
         due("goBack(-1)", x.goBack(-1), UNKNOWN);
         due("goBack(2)", x.goBack(2), UNKNOWN);
         for (int far : FAR) {
@@ -996,7 +978,8 @@ public final class PromisesTest {
     }
 
     private static void emptyWeb() {
-        FixedFacts x = new FixedFacts();
+        check.says("PLACES (0 .. 10; 4 at first)");
+        Counted x = new Counted();
         x.build(0, 1, 0);
         int[] told = {1, 0, 0, 0, NONE, 1, 0, NONE, 1, 0, 0, NONE, 1};
         for (int what = 0; what < told.length; what++) {
@@ -1020,7 +1003,8 @@ public final class PromisesTest {
 
     /** 10 PLACES, 20 WAYS: each PLACE to itself and to the next, each VALUE and mark found on the way round. */
     private static void fullWeb() {
-        FixedFacts x = new FixedFacts();
+        check.says("WAYS (20 at most; none at first)");
+        Counted x = new Counted();
         x.build(0, 8, 10);
         for (int p = 0; p < 10; p++) {
             x.way(p, (p + 1) % 10);
