@@ -1,12 +1,19 @@
 import java.io.IOException;
+import java.lang.reflect.Array;
 import java.lang.reflect.Constructor;
 import java.lang.reflect.Field;
 import java.lang.reflect.Method;
 import java.lang.reflect.Modifier;
 import java.nio.file.Files;
 import java.nio.file.Path;
+import java.util.ArrayDeque;
+import java.util.ArrayList;
 import java.util.Arrays;
+import java.util.Collections;
+import java.util.Deque;
 import java.util.HashSet;
+import java.util.IdentityHashMap;
+import java.util.List;
 import java.util.Set;
 import java.util.TreeSet;
 import java.util.regex.Matcher;
@@ -37,6 +44,10 @@ public final class FaceTest {
         lookAtMembers();
         lookAtClasses();
         lookAtText(Files.readString(Path.of(args[0])));
+        if (args.length > 1 && Files.exists(Path.of(args[1]))) {
+            lookAtDocument(Files.readString(Path.of(args[1])));
+        }
+        lookAtRoom();
         System.out.println("FaceTest: " + looks + " looks, " + wrong + " do not hold");
         if (wrong != 0) {
             System.exit(1);
@@ -68,6 +79,79 @@ public final class FaceTest {
                 && Modifier.isPublic(constructors[0].getModifiers()));
         int modifiers = FixedFacts.class.getModifiers();
         look("the class is public and final", Modifier.isPublic(modifiers) && Modifier.isFinal(modifiers));
+    }
+
+    /** The face that is looked for here is the one that the document tells. */
+    private static void lookAtDocument(String document) {
+        Set<String> told = new TreeSet<>();
+        Matcher matcher = Pattern.compile("(?m)^    public int (\\w+)\\(([^)]*)\\);$").matcher(document);
+        while (matcher.find()) {
+            String parameters = matcher.group(2);
+            told.add(matcher.group(1) + " " + (parameters.isEmpty() ? 0 : parameters.split(",").length));
+        }
+        look("the document tells this face", told.equals(new TreeSet<>(Arrays.asList(FACE))));
+    }
+
+    /** All that an object ever holds is made with it, and is small beside the one room that all calls of a run share. */
+    private static void lookAtRoom() {
+        FixedFacts x = new FixedFacts();
+        Set<Object> made = reachedFrom(x);
+        look("an object holds some 200 objects and arrays", made.size() < 300);
+        look("an object holds some 7,000 fields and elements", sizeOf(made) < 10000);
+        for (int k = 0; k < 64; k++) {
+            x.build(k % 3, 1 + k % 8, 1 + k % 10);
+            x.drift(16);
+            x.told(9);
+            x.steps(k % 3);
+            x.note(0, 0, 0);
+            x.copy();
+            x.keep(k % 2);
+            x.goBack(k % 2);
+        }
+        look("no call makes an object that is held", reachedFrom(x).equals(made));
+    }
+
+    private static Set<Object> reachedFrom(Object first) {
+        Set<Object> reached = Collections.newSetFromMap(new IdentityHashMap<>());
+        Deque<Object> open = new ArrayDeque<>();
+        open.add(first);
+        while (!open.isEmpty()) {
+            Object one = open.remove();
+            if (reached.add(one)) {
+                open.addAll(heldBy(one));
+            }
+        }
+        return reached;
+    }
+
+    private static List<Object> heldBy(Object one) {
+        if (one instanceof Object[] row) {
+            return Arrays.asList(row);
+        }
+        List<Object> held = new ArrayList<>();
+        for (Field field : one.getClass().getDeclaredFields()) {
+            if (!Modifier.isStatic(field.getModifiers()) && !field.getType().isPrimitive()) {
+                held.add(valueOf(field, one));
+            }
+        }
+        return held;
+    }
+
+    private static Object valueOf(Field field, Object one) {
+        try {
+            field.setAccessible(true);
+            return field.get(one);
+        } catch (IllegalAccessException e) {
+            throw new IllegalStateException(e);
+        }
+    }
+
+    private static int sizeOf(Set<Object> objects) {
+        int size = 0;
+        for (Object one : objects) {
+            size += one.getClass().isArray() ? Array.getLength(one) : one.getClass().getDeclaredFields().length;
+        }
+        return size;
     }
 
     private static void lookAtMembers() {
@@ -125,6 +209,10 @@ public final class FaceTest {
         }
         look("plain signs alone", text.chars().allMatch(sign -> sign < 128));
         lookAtLengths(text.split("\n"));
+        for (String line : code.split("\n")) {
+            boolean isMadeWithTheObject = line.matches(" +(private )?final .* = new .*") || line.trim().equals("ring[i] = new Web();");
+            look("no call makes an object: " + line.trim(), isMadeWithTheObject || !line.matches(".*\\bnew\\b.*"));
+        }
     }
 
     /** A method begins at a line that ends with ") {" and is no statement, and ends at the brace below its first letter. */

@@ -547,6 +547,18 @@ public final class Section1Test {
         x.cell(1, 1, 0);
         due("1 is not BELOW 1 now", x.wayAt(0, 5), 0);
         due("0 with 0 is BELOW itself", x.below(0, 0), 1);
+        Counted least = web(0, 3, 1);
+        least.way(0, 0);
+        least.map(0, 0, 1);
+        least.map(0, 1, 2);
+        due("a chain 0, 1, 2 becomes 1, 2, 2", least.wayAt(0, 5), 1);
+        least.cell(0, 1, 0);
+        least.cell(1, 0, 0);
+        due("1, 0, 2 is a chain: LAW 4", least.told(3), 4);
+        due("1 is BELOW 0, but 2 is not BELOW 1", least.wayAt(0, 5), 0);
+        due("told so, though a LAW is BROKEN", least.told(4), 0);
+        least.map(0, 0, 2);
+        due("1 is BELOW 0, 2 is BELOW 2", least.wayAt(0, 5), 1);
         Counted none = web(0, 2, 1);
         none.way(0, 0);
         none.map(0, 0, 1);

@@ -11,6 +11,7 @@ public final class Section2Test {
         check = new Check("Section2Test", args);
         allIsWell();
         onlyTheLastWayIsNotWell();
+        knownIfNotWell();
         theLeastThatHolds();
         theGreatestThatCanBeKnown();
         workedAlsoIfNotWell();
@@ -92,6 +93,31 @@ public final class Section2Test {
         x.drop(17);
         due("none", x.told(4), NONE);
         due("well", x.told(5), 1);
+    }
+
+    private static void knownIfNotWell() {
+        check.says("2, 3 KNOWN (NONE: not ALL IS WELL)");
+        Counted x = web(0, 2, 2);
+        x.way(0, 1);
+        x.start(0, 1, 255);
+        for (int round = 0; round < 2; round++) {
+            if (round == 0) {
+                x.cell(1, 1, 0);
+            } else {
+                x.map(0, 0, 1);
+                x.map(0, 1, 0);
+            }
+            for (int p = 0; p < 2; p++) {
+                due("VALUE", x.place(p, 2), NONE);
+                due("SET", x.place(p, 3), NONE);
+                due("no such PLACE", x.place(2, 2), UNKNOWN);
+            }
+            check.says("7, 8 VALUE, SET that it brings by what is KNOWN (NONE: not ALL IS WELL)");
+            due("VALUE that it brings", x.wayAt(0, 7), NONE);
+            due("SET that it brings", x.wayAt(0, 8), NONE);
+            due("no such WAY", x.wayAt(1, 7), UNKNOWN);
+            x.cell(1, 1, 1);
+        }
     }
 
     private static void theLeastThatHolds() {

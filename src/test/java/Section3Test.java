@@ -35,6 +35,7 @@ public final class Section3Test {
         sinceTheImage();
         undoOutOfItsBounds();
         deedsThatChangeNothing();
+        theLastOfEverything();
         seedStays();
         imagesKeepThese();
         imageThatIsNotKept();
@@ -240,6 +241,15 @@ public final class Section3Test {
         due("the entries stay", x.told(10), 3);
         x.build(2, 8, 10);
         due("all are so again", x.told(11), NONE);
+        Counted far = web(0, 2, 10);
+        far.note(9, 0, 0);
+        due("PLACE 9 is so", far.told(11), NONE);
+        far.build(0, 2, 3);
+        due("no PLACE 9 among 3", far.told(11), 0);
+        far.build(0, 2, 9);
+        due("no PLACE 9 among 9", far.told(11), 0);
+        far.build(0, 2, 10);
+        due("PLACE 9 is so again", far.told(11), NONE);
         Counted value = web(0, 8, 1);
         value.start(0, 7, 0);
         value.note(0, 7, 0);
@@ -615,6 +625,51 @@ public final class Section3Test {
         due("each is a deed", x.told(12), 10);
         due("undo", x.undo(3), 1);
         due("undo", x.undo(7), 1);
+    }
+
+    /** The greatest web there can be, and what stands at its far end. */
+    private static Counted greatest() {
+        Counted x = web(2, 8, 10);
+        for (int w = 0; w < 20; w++) {
+            x.way(9, 9);
+        }
+        x.keep(0);
+        return x;
+    }
+
+    private static void theLastOfEverything() {
+        check.says("all of section 1, what is WRITTEN are as ahead of them");
+        int[][] arguments = {{7, 7, 0}, {9, 7, 255}, {19}, {19, 7, 0}, {19, 255, 255}, {19, 7}, {9, 7, 255}};
+        String[] deeds = {"cell", "start", "drop", "map", "marks", "gate", "write"};
+        for (int round = 0; round < 3; round++) {
+            for (int i = 0; i < deeds.length; i++) {
+                Counted x = greatest();
+                x.call(deeds[i], arguments[i]);
+                check.holds(deeds[i] + " changes the last", !farEnd(x).equals(farEnd(greatest())));
+                if (round == 0) {
+                    due(deeds[i] + ": undo", x.undo(1), 20);
+                } else if (round == 1) {
+                    due(deeds[i] + ": goBack", x.goBack(0), 1);
+                } else {
+                    String then = farEnd(x);
+                    x.keep(1);
+                    x.build(0, 1, 0);
+                    due(deeds[i] + ": goBack", x.goBack(1), 1);
+                    check.holds(deeds[i] + " is in the IMAGE", farEnd(x).equals(then));
+                    x.goBack(0);
+                }
+                check.holds(deeds[i] + " is undone", farEnd(x).equals(farEnd(greatest())));
+            }
+        }
+    }
+
+    private static String farEnd(Counted x) {
+        StringBuilder seen = new StringBuilder();
+        seen.append(x.joined(7, 7)).append(' ').append(x.mapped(19, 7));
+        for (int what = 0; what <= 8; what++) {
+            seen.append(' ').append(x.wayAt(19, what)).append(' ').append(x.place(9, what));
+        }
+        return seen.toString();
     }
 
     private static void seedStays() {
