@@ -102,7 +102,7 @@ public final class BoundsTest {
     private static Check check;
 
     public static void main(String[] args) throws IOException {
-        check = new Check("BoundsTest", args);
+        check = new Check("BoundsTest");
         check.says("REFUSALS, of several the first in this order: UNKNOWN (a VALUE, PLACE, WAY, IMAGE that there is not), "
                 + "OUTSIDE (another number out of its bounds), NOT (not now, as told), FULL.");
         for (Situation s : ofEverySize()) {

@@ -1,6 +1,4 @@
 import java.io.IOException;
-import java.nio.file.Files;
-import java.nio.file.Path;
 
 /** Counts what is due and what is not; shows the sentence of the document that a wrong answer breaks. */
 final class Check {
@@ -12,37 +10,37 @@ final class Check {
     private int answers = 0;
     private int wrong = 0;
 
-    /** The second argument of a test is the path of the document, if it is at hand. */
-    Check(String test, String[] args) throws IOException {
+    Check(String test) throws IOException {
         this.test = test;
-        boolean isThere = args.length > 1 && Files.exists(Path.of(args[1]));
-        document = isThere ? plain(Files.readString(Path.of(args[1]))) : null;
-    }
-
-    private static String plain(String text) {
-        return text.replaceAll("\\s+", " ");
+        document = Texts.plain(Texts.ofDocument());
     }
 
     /** The sentence that the answers from here on belong to; a sentence that the document has no more is wrong too. */
-    void says(String words) {
+    String says(String words) {
         sentence = words;
-        if (document != null) {
-            due("the document says so", document.contains(plain(words)) ? 1 : 0, 1);
-        }
+        holds("the document says so", document.contains(Texts.plain(words)));
+        return words;
     }
 
     void due(String call, long got, long want) {
         answers++;
         if (got != want) {
-            wrong++;
-            if (wrong <= MOST_SHOWN) {
-                System.out.println("\"" + sentence + "\": " + call + " answered " + got + ", due is " + want);
-            }
+            tell(call + " answered " + got + ", due is " + want);
         }
     }
 
     void holds(String what, boolean holds) {
-        due(what, holds ? 1 : 0, 1);
+        answers++;
+        if (!holds) {
+            tell("does not hold: " + what);
+        }
+    }
+
+    private void tell(String text) {
+        wrong++;
+        if (wrong <= MOST_SHOWN) {
+            System.out.println(sentence.isEmpty() ? text : "\"" + sentence + "\": " + text);
+        }
     }
 
     void end() {

@@ -1,11 +1,9 @@
 import java.io.IOException;
 import java.lang.reflect.Array;
-import java.lang.reflect.Constructor;
 import java.lang.reflect.Field;
+import java.lang.reflect.Member;
 import java.lang.reflect.Method;
 import java.lang.reflect.Modifier;
-import java.nio.file.Files;
-import java.nio.file.Path;
 import java.util.ArrayDeque;
 import java.util.ArrayList;
 import java.util.Arrays;
@@ -14,90 +12,151 @@ import java.util.Deque;
 import java.util.HashSet;
 import java.util.IdentityHashMap;
 import java.util.List;
+import java.util.Random;
 import java.util.Set;
-import java.util.TreeSet;
 import java.util.regex.Matcher;
 import java.util.regex.Pattern;
 
-/** The public face of the document, and those rules of LANGUAGE.md that can be seen from the class or its text. */
+/** The public face, as the document writes it; the room that an object takes; calls behind the last that is promised. */
 public final class FaceTest {
-    private static final String[] FACE = {"told 1", "joined 2", "below 2", "place 2", "wayAt 2", "mapped 2", "steps 1", "worked 2",
-        "build 3", "cell 3", "start 3", "way 2", "drop 1", "map 3", "marks 3", "gate 2", "write 3", "copy 0", "drift 1", "undo 1",
-        "note 3", "tear 0", "seed 1", "keep 1", "goBack 1"};
-    private static final String[] CONSTANTS = {"NONE", "UNKNOWN", "OUTSIDE", "NOT", "FULL"};
-    private static final String[] FORBIDDEN = {"throw", "throws", "try", "catch", "synchronized", "assert", "import", "package", "->", "::",
-        "Random", "Thread", "currentTimeMillis", "nanoTime", "Exact(", "protected", "volatile", "native", "Object"};
+    private static final int[] NUMBERS = {Integer.MIN_VALUE, -1, 0, 1, 2, 3, 5, 7, 9, 16, 19, 20, 255, 256, Integer.MAX_VALUE};
 
-    private static int looks = 0;
-    private static int wrong = 0;
-
-    private static void look(String what, boolean holds) {
-        looks++;
-        if (!holds) {
-            wrong++;
-            System.out.println("does not hold: " + what);
-        }
-    }
+    private static Check check;
 
     public static void main(String[] args) throws IOException {
-        lookAtFace();
-        lookAtMembers();
-        lookAtClasses();
-        lookAtText(Files.readString(Path.of(args[0])));
-        if (args.length > 1 && Files.exists(Path.of(args[1]))) {
-            lookAtDocument(Files.readString(Path.of(args[1])));
+        check = new Check("FaceTest");
+        theFace();
+        noOtherMember();
+        constants();
+        wholeNumbers();
+        partsOfTheInterface();
+        roomOfAnObject();
+        callsWithoutEnd();
+        check.end();
+    }
+
+    // ---- the face
+
+    private static void theFace() throws IOException {
+        String face = check.says("public final class FixedFacts { "
+                + "public static final int NONE = -1, UNKNOWN = -1000000001, OUTSIDE = -1000000002, NOT = -1000000003, FULL = -1000000004; "
+                + "public FixedFacts(); "
+                + "public int told(int what); public int joined(int a, int b); public int below(int a, int b); "
+                + "public int place(int p, int what); public int wayAt(int w, int what); public int mapped(int w, int v); "
+                + "public int steps(int choice); public int worked(int choice, int p); "
+                + "public int build(int order, int m, int places); public int cell(int a, int b, int v); "
+                + "public int start(int p, int v, int set); public int way(int from, int to); public int drop(int w); "
+                + "public int map(int w, int a, int v); public int marks(int w, int gives, int takes); public int gate(int w, int v); "
+                + "public int write(int p, int v, int set); public int copy(); public int drift(int n); public int undo(int n); "
+                + "public int note(int p, int v, int set); public int tear(); "
+                + "public int seed(int v); public int keep(int i); public int goBack(int i); }");
+        String text = Texts.plain(Texts.ofClass());
+        List<String> told = publicHeads(face, ";"), written = publicHeads(text, " {");
+        check.due("methods of the document", told.size(), 25);
+        check.holds("the class has these methods, in this order, and no other: " + written, written.equals(told));
+        check.holds("the class itself", text.contains("public final class FixedFacts {"));
+        check.holds("its constructor", text.contains("public FixedFacts() {"));
+        check.holds("its constants", text.contains(face.substring(face.indexOf("public static"), face.indexOf(" public FixedFacts()"))));
+        check.holds("nothing else is public", text.split("\\bpublic\\b").length - 1 == 25 + 3);
+    }
+
+    private static List<String> publicHeads(String text, String end) {
+        List<String> heads = new ArrayList<>();
+        Matcher head = Pattern.compile("public int \\w+\\([^)]*\\)" + Pattern.quote(end)).matcher(text);
+        while (head.find()) {
+            heads.add(head.group().substring(0, head.group().length() - end.length()));
         }
-        lookAtRoom();
-        System.out.println("FaceTest: " + looks + " looks, " + wrong + " do not hold");
-        if (wrong != 0) {
-            System.exit(1);
+        return heads;
+    }
+
+    /** As the machine sees them, with what the compiler adds. */
+    private static void noOtherMember() {
+        Class<FixedFacts> one = FixedFacts.class;
+        check.holds("public and final", Modifier.isPublic(one.getModifiers()) && Modifier.isFinal(one.getModifiers()));
+        check.due("constructors", one.getDeclaredConstructors().length, 1);
+        check.due("public constructors", one.getConstructors().length, 1);
+        Set<String> names = new HashSet<>();
+        List<Member> members = new ArrayList<>(Arrays.asList(one.getDeclaredFields()));
+        for (Method method : one.getDeclaredMethods()) {
+            members.add(method);
+            if (Modifier.isPublic(method.getModifiers())) {
+                check.holds(method + " has a name of its own", names.add(method.getName()));
+                check.holds(method + " belongs to an object", !Modifier.isStatic(method.getModifiers()));
+            }
+        }
+        check.due("public methods", names.size(), 25);
+        for (Member member : members) {
+            boolean isPublic = Modifier.isPublic(member.getModifiers());
+            check.holds(member + " is public or private", isPublic || Modifier.isPrivate(member.getModifiers()));
+            check.holds(member + ", no method that is not public bears such a name",
+                    isPublic || member instanceof Field || !names.contains(member.getName()));
+        }
+        for (Class<?> inside : one.getDeclaredClasses()) {
+            for (Method method : inside.getDeclaredMethods()) {
+                check.holds(method + " bears no such name", !names.contains(method.getName()));
+            }
         }
     }
 
-    private static void lookAtFace() {
-        Set<String> methods = new TreeSet<>();
+    private static void constants() {
+        check.says("NONE = -1, UNKNOWN = -1000000001, OUTSIDE = -1000000002, NOT = -1000000003, FULL = -1000000004;");
+        check.due("NONE", FixedFacts.NONE, -1);
+        check.due("UNKNOWN", FixedFacts.UNKNOWN, -1000000001);
+        check.due("OUTSIDE", FixedFacts.OUTSIDE, -1000000002);
+        check.due("NOT", FixedFacts.NOT, -1000000003);
+        check.due("FULL", FixedFacts.FULL, -1000000004);
+        check.due("public fields", FixedFacts.class.getFields().length, 5);
+        for (Field field : FixedFacts.class.getFields()) {
+            check.holds(field + " is a constant", Modifier.isStatic(field.getModifiers()) && Modifier.isFinal(field.getModifiers()));
+        }
+    }
+
+    private static void wholeNumbers() {
+        check.says("All numbers are whole.");
         for (Method method : FixedFacts.class.getDeclaredMethods()) {
             if (Modifier.isPublic(method.getModifiers())) {
-                methods.add(method.getName() + " " + method.getParameterCount());
-                boolean ofInts = Arrays.stream(method.getParameterTypes()).allMatch(type -> type == int.class);
-                look(method + " is of ints", ofInts && method.getReturnType() == int.class);
-                look(method + " belongs to an object", !Modifier.isStatic(method.getModifiers()));
+                boolean takesInts = Arrays.stream(method.getParameterTypes()).allMatch(type -> type == int.class);
+                check.holds(method + " is of ints", takesInts && method.getReturnType() == int.class);
             }
         }
-        look("the public methods are the document's", methods.equals(new TreeSet<>(Arrays.asList(FACE))));
-        Set<String> constants = new HashSet<>();
-        for (Field field : FixedFacts.class.getDeclaredFields()) {
-            if (Modifier.isPublic(field.getModifiers())) {
-                constants.add(field.getName());
-                look(field + " is a constant int", Modifier.isFinal(field.getModifiers())
-                        && Modifier.isStatic(field.getModifiers()) && field.getType() == int.class);
-            }
+        for (Field field : FixedFacts.class.getFields()) {
+            check.holds(field + " is an int", field.getType() == int.class);
         }
-        look("the constants are the document's", constants.equals(new HashSet<>(Arrays.asList(CONSTANTS))));
-        Constructor<?>[] constructors = FixedFacts.class.getDeclaredConstructors();
-        look("one public constructor", constructors.length == 1 && constructors[0].getParameterCount() == 0
-                && Modifier.isPublic(constructors[0].getModifiers()));
-        int modifiers = FixedFacts.class.getModifiers();
-        look("the class is public and final", Modifier.isPublic(modifiers) && Modifier.isFinal(modifiers));
     }
 
-    /** The face that is looked for here is the one that the document tells. */
-    private static void lookAtDocument(String document) {
-        Set<String> told = new TreeSet<>();
-        Matcher matcher = Pattern.compile("(?m)^    public int (\\w+)\\(([^)]*)\\);$").matcher(document);
-        while (matcher.find()) {
-            String parameters = matcher.group(2);
-            told.add(matcher.group(1) + " " + (parameters.isEmpty() ? 0 : parameters.split(",").length));
-        }
-        look("the document tells this face", told.equals(new TreeSet<>(Arrays.asList(FACE))));
+    private static void partsOfTheInterface() throws IOException {
+        part("what there is", check.says("Ahead of the calls `told`, `joined`, `below`, `place`, `wayAt`, `mapped`, `steps`, "
+                + "`worked` the interface says: ---- what there is."));
+        part("deeds", check.says("Ahead of the calls `build`, `cell`, `start`, `way`, `drop`, `map`, `marks`, `gate`, `write`, "
+                + "`copy`, `drift`, `undo` the interface says: ---- deeds."));
+        part("the book", check.says("Ahead of the calls `note`, `tear` the interface says: ---- the book."));
+        part("images", check.says("Ahead of the calls `seed`, `keep`, `goBack` the interface says: ---- images."));
     }
 
-    /** All that an object ever holds is made with it, and is small beside the one room that all calls of a run share. */
-    private static void lookAtRoom() {
+    /** From the line that the interface says on to the next such line just those calls stand. */
+    private static void part(String line, String sentence) throws IOException {
+        String text = Texts.ofClass();
+        int begin = text.indexOf("    // ---- " + line + "\n");
+        check.holds("the line stands once", begin >= 0 && text.indexOf("// ---- " + line + "\n", begin + 8) < 0);
+        int end = text.indexOf("    // ----", begin + 1);
+        List<String> told = new ArrayList<>(), written = new ArrayList<>();
+        Matcher name = Pattern.compile("`(\\w+)`").matcher(sentence);
+        while (name.find()) {
+            told.add(name.group(1));
+        }
+        for (String head : publicHeads(text.substring(Math.max(0, begin), end < 0 ? text.length() : end), " {")) {
+            written.add(head.replaceAll("public int (\\w+)\\(.*", "$1"));
+        }
+        check.holds("these calls stand there: " + written, written.equals(told));
+    }
+
+    // ---- the room: all that an object ever holds is made with it, and is small beside the one room of all calls
+
+    private static void roomOfAnObject() {
         FixedFacts x = new FixedFacts();
         Set<Object> made = reachedFrom(x);
-        look("an object holds some 200 objects and arrays", made.size() < 300);
-        look("an object holds some 7,000 fields and elements", sizeOf(made) < 10000);
+        check.holds("an object holds some 200 objects and arrays", made.size() < 300);
+        check.holds("an object holds some 7,000 fields and elements", sizeOf(made) < 10000);
         for (int k = 0; k < 64; k++) {
             x.build(k % 3, 1 + k % 8, 1 + k % 10);
             x.drift(16);
@@ -108,7 +167,7 @@ public final class FaceTest {
             x.keep(k % 2);
             x.goBack(k % 2);
         }
-        look("no call makes an object that is held", reachedFrom(x).equals(made));
+        check.holds("no call makes an object that is held", reachedFrom(x).equals(made));
     }
 
     private static Set<Object> reachedFrom(Object first) {
@@ -154,79 +213,38 @@ public final class FaceTest {
         return size;
     }
 
-    private static void lookAtMembers() {
-        Set<String> face = new HashSet<>();
-        for (String method : FACE) {
-            face.add(method.substring(0, method.indexOf(' ')));
-        }
+    // ---- behind the 512th call
+
+    /** What is answered there is free, but no call may ever throw or fail to end. */
+    private static void callsWithoutEnd() {
+        check.says("what later calls answer is free.");
+        List<Method> calls = new ArrayList<>();
         for (Method method : FixedFacts.class.getDeclaredMethods()) {
-            boolean isPublic = Modifier.isPublic(method.getModifiers());
-            look(method + " is public or private", isPublic || Modifier.isPrivate(method.getModifiers()));
-            look(method + " has a name of its own", isPublic || !face.contains(method.getName()));
-        }
-        for (Field field : FixedFacts.class.getDeclaredFields()) {
-            int modifiers = field.getModifiers();
-            look(field + " is public or private", Modifier.isPublic(modifiers) || Modifier.isPrivate(modifiers));
-        }
-        for (Class<?> inside : FixedFacts.class.getDeclaredClasses()) {
-            for (Method method : inside.getDeclaredMethods()) {
-                look(method + " has a name of its own", !face.contains(method.getName()));
+            if (Modifier.isPublic(method.getModifiers())) {
+                calls.add(method);
             }
         }
-    }
-
-    private static void lookAtClasses() {
-        Class<?>[] inside = FixedFacts.class.getDeclaredClasses();
-        look("twelve classes at most", inside.length < 12);
-        lookAtClass(FixedFacts.class);
-        for (Class<?> one : inside) {
-            look(one + " is static", Modifier.isStatic(one.getModifiers()));
-            look(one + " is not public", !Modifier.isPublic(one.getModifiers()));
-            lookAtClass(one);
-        }
-    }
-
-    private static void lookAtClass(Class<?> one) {
-        int fields = 0;
-        for (Field field : one.getDeclaredFields()) {
-            boolean isStatic = Modifier.isStatic(field.getModifiers());
-            look(field + " of a class is final", !isStatic || Modifier.isFinal(field.getModifiers()));
-            fields += isStatic ? 0 : 1;
-        }
-        look(one + " has twenty fields at most", fields <= 20);
-        for (Method method : one.getDeclaredMethods()) {
-            look(method + " takes seven at most", method.getParameterCount() <= 7);
-        }
-    }
-
-    private static void lookAtText(String text) {
-        String code = text.replaceAll("(?s)/\\*.*?\\*/", "").replaceAll("//[^\n]*", "");
-        for (String word : FORBIDDEN) {
-            boolean isWord = Character.isLetter(word.charAt(0));
-            String pattern = isWord ? "\\b" + Pattern.quote(word) : Pattern.quote(word);
-            boolean whole = isWord && Character.isLetter(word.charAt(word.length() - 1));
-            look("no " + word, !Pattern.compile(whole ? pattern + "\\b" : pattern).matcher(code).find());
-        }
-        look("plain signs alone", text.chars().allMatch(sign -> sign < 128));
-        lookAtLengths(text.split("\n"));
-        for (String line : code.split("\n")) {
-            boolean isMadeWithTheObject = line.matches(" +(private )?final .* = new .*") || line.trim().equals("ring[i] = new Web();");
-            look("no call makes an object: " + line.trim(), isMadeWithTheObject || !line.matches(".*\\bnew\\b.*"));
-        }
-    }
-
-    /** A method begins at a line that ends with ") {" and is no statement, and ends at the brace below its first letter. */
-    private static void lookAtLengths(String[] lines) {
-        Pattern head = Pattern.compile("^( +)(public |private )?(static )?[\\w\\[\\]]+ ?\\w*\\([^;]*\\) \\{$");
-        for (int i = 0; i < lines.length; i++) {
-            Matcher matcher = head.matcher(lines[i]);
-            if (matcher.matches()) {
-                int end = i;
-                while (end < lines.length && !lines[end].equals(matcher.group(1) + "}")) {
-                    end++;
+        // the machine tells methods in an order of its own
+        calls.sort((a, b) -> a.getName().compareTo(b.getName()));
+        for (int run = 0; run < 20; run++) {
+            Random random = new Random(run);
+            FixedFacts x = new FixedFacts();
+            for (int k = 0; k < 5000; k++) {
+                Method call = calls.get(random.nextInt(calls.size()));
+                Object[] arguments = new Object[call.getParameterCount()];
+                for (int i = 0; i < arguments.length; i++) {
+                    arguments[i] = NUMBERS[random.nextInt(NUMBERS.length)];
                 }
-                look("sixty lines at most: " + lines[i].trim(), end - i < 60);
+                check.holds(call.getName() + Arrays.toString(arguments) + " is answered", isAnswered(call, x, arguments));
             }
+        }
+    }
+
+    private static boolean isAnswered(Method call, FixedFacts x, Object[] arguments) {
+        try {
+            return call.invoke(x, arguments) instanceof Integer;
+        } catch (ReflectiveOperationException e) {
+            return false;
         }
     }
 }

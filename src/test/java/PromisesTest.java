@@ -13,7 +13,7 @@ public final class PromisesTest {
     }
 
     public static void main(String[] args) throws IOException {
-        check = new Check("PromisesTest", args);
+        check = new Check("PromisesTest");
         promise1New();
         promise2Told();
         promise2Laws();

@@ -8,7 +8,7 @@ public final class Section1Test {
     private static Check check;
 
     public static void main(String[] args) throws IOException {
-        check = new Check("Section1Test", args);
+        check = new Check("Section1Test");
         theLastOf512Calls();
         numbersFrom0();
         setsBitByBit();
@@ -255,6 +255,11 @@ public final class Section1Test {
     }
 
     private static void tableCellByCell() {
+        check.says("THE TABLE tells of two VALUES what both are JOINED.");
+        Counted two = web(0, 4, 0);
+        two.cell(1, 3, 2);
+        due("1 with 3", two.joined(1, 3), 2);
+        due("3 with 1 is another cell", two.joined(3, 1), 3);
         check.says("THE TABLE may be told cell by cell.");
         for (int cell = 0; cell < 64; cell++) {
             int a = cell / 8, b = cell % 8, v = (joinedBy(2, 8, a, b) + 1 + cell) % 8;

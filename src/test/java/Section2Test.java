@@ -8,7 +8,7 @@ public final class Section2Test {
     private static Check check;
 
     public static void main(String[] args) throws IOException {
-        check = new Check("Section2Test", args);
+        check = new Check("Section2Test");
         allIsWell();
         onlyTheLastWayIsNotWell();
         knownIfNotWell();
@@ -19,6 +19,7 @@ public final class Section2Test {
         stepsWithoutEnd();
         allWaitInOrder();
         theNextByEachChoice();
+        itGetsNoMoreThanComes();
         waitingByWaysRising();
         whoWaitsAlreadyStays();
         onlyWhatIsOtherwiseWakes();
@@ -247,7 +248,8 @@ public final class Section2Test {
     }
 
     private static void theNextByEachChoice() {
-        check.says("one that WAITS is taken: by CHOICE 0 the least, 1 the one that waits the longest, 2 the one that came last");
+        check.says("A step: one that WAITS is taken: by CHOICE 0 the least, 1 the one that waits the longest, 2 the one that "
+                + "came last;");
         Counted x = web(0, 3, 4);
         x.way(3, 0);
         x.way(0, 1);
@@ -265,6 +267,39 @@ public final class Section2Test {
         due("0 1* 0* 2* 0*", y.steps(0), 5);
         due("0 1* 2* 0*", y.steps(1), 4);
         due("2* 1* 0*: 0 is waiting already", y.steps(2), 3);
+    }
+
+    /** What it had goes, also if it was more: so can be only if not ALL IS WELL. */
+    private static void itGetsNoMoreThanComes() {
+        check.says("it gets START of it and what all WAYS to it bring, TOGETHER;");
+        Counted x = web(0, 3, 3);
+        x.way(1, 0);
+        x.map(0, 0, 2);
+        x.map(0, 1, 0);
+        x.start(0, 0, 4);
+        x.start(1, 1, 8);
+        due("not well", x.told(5), 0);
+        due("0*: 2 and mark 2; 1*; 0*: 0 and marks 2, 3; 2", x.steps(0), 4);
+        due("the VALUE that it had is gone", x.worked(0, 0), 12);
+        due("0* 1* 2 0*", x.steps(1), 4);
+        due("the VALUE that it had is gone", x.worked(1, 0), 12);
+        due("2 1* 0*", x.steps(2), 3);
+        due("it never had more", x.worked(2, 0), 12);
+        // a GATE that is closed again: its marks go, too
+        Counted y = web(0, 3, 3);
+        y.way(1, 0);
+        y.way(2, 1);
+        y.gate(0, 1);
+        y.marks(0, 64, 0);
+        y.map(1, 0, 1);
+        y.map(1, 2, 0);
+        y.start(2, 2, 1);
+        due("0 1* 0* 2* 1* 0*", y.steps(0), 6);
+        due("closed again", y.worked(0, 0), 0);
+        due("0 1* 2* 0* 1* 0*", y.steps(1), 6);
+        due("closed again", y.worked(1, 0), 0);
+        due("where it begins", y.worked(1, 1), 1);
+        due("by WAY 1 all is as it comes", y.worked(1, 2), 513);
     }
 
     private static void waitingByWaysRising() {

@@ -11,7 +11,7 @@ public final class Section3Test {
     private static Check check;
 
     public static void main(String[] args) throws IOException {
-        check = new Check("Section3Test", args);
+        check = new Check("Section3Test");
         withoutAWay();
         withoutIfNotWell();
         allMatter();
@@ -272,7 +272,7 @@ public final class Section3Test {
     }
 
     private static void seedAtFirst() {
-        check.says("THE SEED (0 at first");
+        check.says("BY DRAWS: THE SEED (0 at first");
         Counted x = new Counted();
         due("0 at first", x.seed(0), 0);
         due("drift", x.drift(1), 1);
